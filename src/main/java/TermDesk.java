@@ -823,6 +823,25 @@ public final class TermDesk {
                 coefs[free] = coef;
             }
         }
+
+        /** Sorts TERMS that came in any order and joins those with like EXPONENTS. */
+        void settle(Modulus modulus) {
+            sort();
+            int all = count;
+            int i = 0;
+            count = 0;
+            for (int most = all; most > 0 && i < all; most--) {
+                int mark = marks[i];
+                int sum = 0;
+                for (; i < all && marks[i] == mark; i++) {
+                    sum += coefs[i];
+                }
+                sum = modulus.reduce(sum);
+                if (sum != 0) {
+                    append(mark, sum);
+                }
+            }
+        }
     }
 
     /** What is made of polynomials; none of it may be made in a polynomial that it is made of. */
@@ -833,7 +852,6 @@ public final class TermDesk {
         final Order ranking;
         private final Order another = new Order();
         private final Poly zero = new Poly();
-        private final Poly spare = new Poly();
         private final int[] sums = new int[PLACES];
         private final int[] turns = new int[UNKNOWNS];
         private final int[] outerPowers = new int[EXPONENTS];
@@ -932,7 +950,7 @@ public final class TermDesk {
                 int mark = a.marks[i] - exponent * ranking.unitMarks[unknown];
                 out.append(mark, modulus.reduce(a.coefs[i] * power(c, exponent)));
             }
-            settle(out);
+            out.settle(modulus);
         }
 
         void exchange(Poly a, int unknown, int other, Poly out) {
@@ -977,25 +995,6 @@ public final class TermDesk {
                 lead = Math.max(lead, another.markAnew(poly.marks[i]));
             }
             return lead;
-        }
-
-        /** Sorts TERMS that came in any order and joins those with like EXPONENTS. */
-        void settle(Poly poly) {
-            poly.sort();
-            spare.copyFrom(poly);
-            poly.count = 0;
-            int i = 0;
-            for (int most = spare.count; most > 0 && i < spare.count; most--) {
-                int mark = spare.marks[i];
-                int sum = 0;
-                for (; i < spare.count && spare.marks[i] == mark; i++) {
-                    sum += spare.coefs[i];
-                }
-                sum = modulus.reduce(sum);
-                if (sum != 0) {
-                    poly.append(mark, sum);
-                }
-            }
         }
 
         int power(int base, int exponent) {
@@ -1120,7 +1119,6 @@ public final class TermDesk {
 
         final Modulus modulus = new Modulus();
         final Order ranking = new Order();
-        private final Arithmetic arithmetic = new Arithmetic(modulus, ranking);
         final Poly[] polys = new Poly[MOST_POLYS];
         int polyCount = 0;
         int faultNumber = 0;
@@ -1243,7 +1241,7 @@ public final class TermDesk {
                     return false;
                 }
                 if (!isSign('+') && !isSign('-')) {
-                    arithmetic.settle(poly);
+                    poly.settle(modulus);
                     polyCount++;
                     return true;
                 }
@@ -1320,28 +1318,20 @@ public final class TermDesk {
             if (at >= length) {
                 kind = END;
             } else if (isLetter(text[at])) {
-                takeWord();
+                for (; at < length && isLetter(text[at]); at++) {
+                    continue;
+                }
+                kind = at - start <= MOST_LETTERS ? WORD : NO_TOKEN;
             } else if (isDigit(text[at])) {
-                takeWhole();
+                for (; at < length && isDigit(text[at]); at++) {
+                    number = 10 * number + text[at] - '0';
+                }
+                kind = at - start <= MOST_DIGITS ? WHOLE : NO_TOKEN;
             } else {
                 number = text[at];
                 kind = number == ';' || number == '+' || number == '-' ? SIGN : NO_TOKEN;
                 at++;
             }
-        }
-
-        private void takeWord() {
-            for (; at < length && isLetter(text[at]); at++) {
-                continue;
-            }
-            kind = at - start <= MOST_LETTERS ? WORD : NO_TOKEN;
-        }
-
-        private void takeWhole() {
-            for (; at < length && isDigit(text[at]); at++) {
-                number = 10 * number + text[at] - '0';
-            }
-            kind = at - start <= MOST_DIGITS ? WHOLE : NO_TOKEN;
         }
 
         private static boolean isLetter(int c) {
@@ -1490,7 +1480,10 @@ public final class TermDesk {
     private static final class Field {
         private static final int LEAST_ELEMENTS = 500;
         private static final int MOST_ELEMENTS = 97 * 97;
-        /** For each of PRIMES, by digits to that base: the power of the generator that leaves them. */
+        /**
+         * Elements are written with digits to the base PRIME, the generator as 10; for each of
+         * PRIMES, what its first power with a digit too many is instead.
+         */
         private static final int[] TAILS = {
             17, 4, 32, 60, 18, 32, 20, 34, 27, 44, 38, 52, 48, 52, 55, 58, 62, 68, 77, 74, 78, 83, 104,
             104, 104
@@ -1748,19 +1741,18 @@ public final class TermDesk {
                     rowTop = otherTop;
                     otherTop = keptTop;
                 } else {
-                    reduceRow(row, rowTop, otherTop);
+                    reduceRow(row, rowTop, otherTop, modulus.inverseOf(other[otherTop]));
                     rowTop = topOf(row, 0, WIDE);
                 }
             }
         }
 
         /** What the row leaves when it is divided by the other row. */
-        private void reduceRow(int[] row, int rowTop, int otherTop) {
+        private void reduceRow(int[] row, int rowTop, int otherTop, int factor) {
             int prime = modulus.prime;
             if (prime < 2 || otherTop < 0 || rowTop >= WIDE) {
                 return;
             }
-            int factor = modulus.inverseOf(other[otherTop]);
             for (int shift = rowTop - otherTop; shift >= 0; shift--) {
                 int often = prime - row[shift + otherTop] * factor % prime;
                 for (int i = 0; i <= otherTop; i++) {
