@@ -11,6 +11,7 @@ public final class PolynomialTest {
         roots();
         sames();
         aheads();
+        everyOrder();
         leads();
         Checks.end("PolynomialTest");
     }
@@ -133,6 +134,47 @@ public final class PolynomialTest {
             Checks.due("ahead: wrong", desk.ahead(w[0], w[1], w[2], w[3], w[4], w[5]), -2);
             Checks.due("ahead: trouble", desk.trouble(), 2);
         }
+    }
+
+    /** In each ORDER many TERMS beside others, by the words of the document alone. */
+    private static void everyOrder() {
+        java.util.Random random = new java.util.Random(7);
+        String[] hows = {"lex", "deg", "rev"};
+        String[] unknowns = {"x y z", "x z y", "y x z", "y z x", "z x y", "z y x"};
+        for (int how = 0; how < 3; how++) {
+            for (String all : unknowns) {
+                TermDesk desk = Checks.told("ring prime 5 order " + hows[how] + " " + all);
+                for (int i = 0; i < 20000; i++) {
+                    int[] a = {random.nextInt(16), random.nextInt(16), random.nextInt(16)};
+                    int[] b = {random.nextInt(16), random.nextInt(16), random.nextInt(16)};
+                    int same = random.nextInt(4);
+                    b[2] = same == 0 ? Math.floorMod(a[0] + a[1] + a[2] - b[0] - b[1], 16) : b[2];
+                    b[random.nextInt(3)] = same == 1 ? a[0] : b[0];
+                    Checks.due("ahead by " + hows[how] + " " + all, desk.ahead(a[0], a[1], a[2], b[0], b[1], b[2]),
+                        by(how, all, a, b));
+                }
+            }
+        }
+    }
+
+    private static int by(int how, String all, int[] a, int[] b) {
+        int first = all.charAt(0) - 'x';
+        int second = all.charAt(2) - 'x';
+        int third = all.charAt(4) - 'x';
+        int degree = Integer.compare(a[0] + a[1] + a[2], b[0] + b[1] + b[2]);
+        if (how > 0 && degree != 0) {
+            return degree;
+        }
+        if (how == 2) {
+            int less = Integer.compare(b[third], a[third]);
+            return less != 0 ? less : Integer.compare(b[second], a[second]);
+        }
+        for (int u : new int[] {first, second, third}) {
+            if (a[u] != b[u]) {
+                return a[u] > b[u] ? 1 : -1;
+            }
+        }
+        return 0;
     }
 
     private static void leads() {
