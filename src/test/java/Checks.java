@@ -1,12 +1,52 @@
+import java.lang.reflect.InvocationTargetException;
+import java.lang.reflect.Method;
 import java.nio.charset.StandardCharsets;
+import java.util.Arrays;
+import java.util.Comparator;
 import java.util.NoSuchElementException;
 
 /** What the project's tests share: counting wrong answers, and telling a desk as a text. */
 final class Checks {
     private static int wrong = 0;
     private static int made = 0;
+    private static String test = "";
 
     private Checks() {
+    }
+
+    /**
+     * Runs all tests of a class, its methods named promiseNN and what is tested, the first and the
+     * last NN being told: each promise between them has one, and none is of another promise.
+     */
+    static void promises(Class<?> tests, int first, int last) {
+        boolean[] seen = new boolean[100];
+        Method[] methods = tests.getDeclaredMethods();
+        Arrays.sort(methods, Comparator.comparing(Method::getName));
+        for (Method method : methods) {
+            if (method.getName().startsWith("promise")) {
+                due(method.getName() + " has its number", method.getName().matches("promise[0-9]{2}[A-Z]\\w*"), true);
+                seen[Integer.parseInt(method.getName().substring(7, 9))] = true;
+                test = method.getName() + ": ";
+                int before = made;
+                run(method);
+                due("how many answers are looked at is more than 0", made > before, true);
+            }
+        }
+        test = "";
+        for (int n = 0; n < 100; n++) {
+            due(tests.getName() + " has a test of promise " + n, seen[n], n >= first && n <= last);
+        }
+        end(tests.getName());
+    }
+
+    private static void run(Method method) {
+        try {
+            method.setAccessible(true);
+            method.invoke(null);
+        } catch (InvocationTargetException | IllegalAccessException thrown) {
+            thrown.printStackTrace(System.out);
+            due("it threw", true, false);
+        }
     }
 
     static void due(String call, long got, long want) {
@@ -14,13 +54,18 @@ final class Checks {
         if (got != want) {
             wrong++;
             if (wrong <= 40) {
-                System.out.println(call + " answered " + got + ", due is " + want);
+                System.out.println(test + call + " answered " + got + ", due is " + want);
             }
         }
     }
 
     static void due(String call, boolean got, boolean want) {
         due(call, got ? 1 : 0, want ? 1 : 0);
+    }
+
+    /** The call that was just made, no matter what it answered, told this TROUBLE. */
+    static void trouble(String call, TermDesk desk, int number) {
+        due(call + ": trouble", desk.trouble(), number);
     }
 
     /** The call that was just made was refused by this number. */
@@ -44,7 +89,7 @@ final class Checks {
 
     static void feed(TermDesk desk, byte[] bytes) {
         byte[] whole = new byte[(bytes.length + 19) / 20 * 20];
-        java.util.Arrays.fill(whole, (byte) ' ');
+        Arrays.fill(whole, (byte) ' ');
         System.arraycopy(bytes, 0, whole, 0, bytes.length);
         for (int at = 0; at < whole.length; at += 20) {
             desk.feed(four(whole, at), four(whole, at + 4), four(whole, at + 8), four(whole, at + 12),
@@ -85,7 +130,7 @@ final class Checks {
         made++;
         if (!got.toString().equals(poly)) {
             wrong++;
-            System.out.println(call + ": register " + r + " is '" + got + "', due is '" + poly + "'");
+            System.out.println(test + call + ": register " + r + " is '" + got + "', due is '" + poly + "'");
         }
     }
 

@@ -51,6 +51,14 @@ final class Model {
         }
     }
 
+    /** One that is told a text of a DESK. */
+    static Model told(String text) {
+        Model model = new Model();
+        model.tape.append(text);
+        model.desk(text.length());
+        return model;
+    }
+
     // ---- what is told of a call
 
     private int no(int number) {
