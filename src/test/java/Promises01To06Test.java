@@ -338,6 +338,27 @@ public final class Promises01To06Test {
         faulty(RING + ";poly 00001 x", 1, 34);
         faulty(RING + ";poly x 00001", 1, 36);
         faulty(RING + ";poly x 123456789", 1, 36);
+        faulty(RING + " 00059 poly x", 1, 29);
+    }
+
+    /** Each letter of each WORD exchanged for another one. */
+    private static void promise03NoOtherWords() {
+        String text = RING + ";poly x";
+        int[][] words = {{0, 4}, {5, 10}, {13, 18}, {19, 22}, {29, 33}};
+        for (int[] word : words) {
+            for (int at = word[0]; at < word[1]; at++) {
+                for (char letter : new char[] {'a', 'q', 'z'}) {
+                    faulty(text.substring(0, at) + letter + text.substring(at + 1), 1, word[0]);
+                }
+            }
+            faulty(text.substring(0, word[1] - 1) + text.substring(word[1]), 1, word[0]);
+        }
+        for (String how : new String[] {"dex", "leg", "rex", "lev", "dev", "xex", "rel"}) {
+            faulty("ring prime 7 order " + how + " x y z", 1, 19);
+        }
+        for (char letter = 'a'; letter < 'x'; letter++) {
+            faulty(RING + ";poly " + letter, 1, 34);
+        }
     }
 
     private static void promise03LettersThatStandTogetherAreOneWord() {

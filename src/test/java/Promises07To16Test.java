@@ -168,6 +168,21 @@ public final class Promises07To16Test {
         Checks.answered("of ZERO", desk, desk.coefficient(7, 0, 0, 0), 0);
     }
 
+    private static void promise11OneThatWasThere() {
+        TermDesk desk = Checks.told("ring prime 7 order lex x y z;poly x + y + 1;poly y + 1;poly x + y");
+        desk.less(0, 1, 0);
+        Checks.is("x is left", desk, 0, "1 x1");
+        Checks.answered("of y", desk, desk.coefficient(0, 0, 1, 0), 0);
+        Checks.answered("of 1", desk, desk.coefficient(0, 0, 0, 0), 0);
+    }
+
+    private static void promise11NoneOfSixty() {
+        TermDesk desk = Checks.told(SIXTY);
+        desk.times(0, 1, 7);
+        Checks.answered("the last", desk, desk.coefficient(7, 0, 0, 0), 1);
+        Checks.answered("none", desk, desk.coefficient(7, 0, 0, 1), 0);
+    }
+
     private static void promise11ExponentsFrom0To15() {
         TermDesk desk = Checks.told("ring prime 7 order lex x y z;poly x");
         for (int e : NO_EXPONENTS) {
@@ -214,6 +229,13 @@ public final class Promises07To16Test {
         }
     }
 
+    private static void promise12SixtyTerms() {
+        TermDesk desk = Checks.told(SIXTY);
+        desk.times(0, 1, 7);
+        Checks.answered("10 by 6", desk, desk.value(7, 1, 1, 1), 4);
+        Checks.answered("1", desk, desk.value(7, 0, 0, 5), 1);
+    }
+
     private static void promise12NumbersFrom0ToPrimeLess1() {
         for (int p : new int[] {2, 7, 97}) {
             TermDesk desk = Checks.told("ring prime " + p + " order lex x y z;poly 1");
@@ -250,6 +272,60 @@ public final class Promises07To16Test {
         for (int r = 0; r < 5; r++) {
             Checks.answered("register " + r, desk, desk.roots(r), more[r]);
         }
+    }
+
+    /** Beside all choices one by one. */
+    private static void promise13EachChoiceCounts() {
+        Random random = new Random(13);
+        for (int i = 0; i < 400; i++) {
+            int p = new int[] {2, 3, 5, 7, 11}[i % 5];
+            int[][] terms = new int[1 + random.nextInt(5)][];
+            StringBuilder text = new StringBuilder("ring prime " + p + " order lex x y z;poly 0");
+            int[] most = {1, 1, 1};
+            for (int t = 0; t < terms.length; t++) {
+                int[] e = new int[4];
+                e[3] = 1 + random.nextInt(p - 1);
+                text.append(" + ").append(e[3]);
+                for (int u = 0; u < 3; u++) {
+                    e[u] = i / 5 >> u & 1;
+                    e[u] *= random.nextInt(4) == 0 ? 15 : random.nextInt(16);
+                    text.append(e[u] > 0 ? " " + "xyz".charAt(u) + e[u] : "");
+                }
+                terms[t] = e;
+            }
+            TermDesk desk = Checks.told(text.toString());
+            for (int u = 0; u < 3; u++) {
+                most[u] = desk.degreeIn(0, u) > 0 ? p : 1;
+            }
+            Checks.answered("roots of " + text, desk, desk.roots(0), count(terms, most, p));
+        }
+    }
+
+    private static int count(int[][] terms, int[] most, int p) {
+        int count = 0;
+        for (int choice = 0; choice < most[0] * most[1] * most[2]; choice++) {
+            int[] values = {choice % most[0], choice / most[0] % most[1], choice / most[0] / most[1]};
+            int sum = 0;
+            for (int[] t : terms) {
+                int product = t[3];
+                for (int u = 0; u < 3; u++) {
+                    for (int e = 0; e < t[u]; e++) {
+                        product = product * values[u] % p;
+                    }
+                }
+                sum += product;
+            }
+            count += sum % p == 0 ? 1 : 0;
+        }
+        return count;
+    }
+
+    private static void promise13SixtyTerms() {
+        TermDesk desk = Checks.told(SIXTY);
+        desk.times(0, 1, 7);
+        int ofX = desk.roots(0);
+        int ofY = desk.roots(1);
+        Checks.answered("of a product", desk, desk.roots(7), 7 * ofX + 7 * ofY - ofX * ofY);
     }
 
     private static void promise13WithoutAnyUnknown() {
@@ -365,6 +441,22 @@ public final class Promises07To16Test {
         Checks.trouble("1 ahead of 2", desk, 1);
     }
 
+    /** In each ORDER all TERMS with EXPONENTS at the bounds, beside all such. */
+    private static void promise15TheBoundsOfEveryOrder() {
+        int[] bounds = {0, 1, 14, 15};
+        for (int i = 0; i < 18 * 64; i++) {
+            int how = i % 3;
+            String all = new String[] {"x y z", "x z y", "y x z", "y z x", "z x y", "z y x"}[i / 3 % 6];
+            String order = new String[] {"lex ", "deg ", "rev "}[how] + all;
+            TermDesk desk = Checks.told("ring prime 5 order " + order);
+            int[] a = {bounds[i / 18 & 3], bounds[i / 18 >> 2 & 3], bounds[i / 18 >> 4]};
+            for (int j = 0; j < 64; j++) {
+                int[] b = {bounds[j & 3], bounds[j >> 2 & 3], bounds[j >> 4]};
+                Checks.due("by " + order, desk.ahead(a[0], a[1], a[2], b[0], b[1], b[2]), by(how, all, a, b));
+            }
+        }
+    }
+
     /** In each ORDER many TERMS beside others, by the words of the document alone. */
     private static void promise15EveryOrder() {
         Random random = new Random(7);
@@ -420,6 +512,15 @@ public final class Promises07To16Test {
         TermDesk desk = Checks.told("ring prime 5 order lex x y z;poly x15y15z15 + 1;poly 3");
         Checks.answered("the greatest", desk, desk.leadBy(0, 1, 2, 0), 15 + 240 + 3840);
         Checks.answered("of a number", desk, desk.leadBy(1, 1, 2, 0), 0);
+    }
+
+    private static void promise16SixtyTerms() {
+        TermDesk desk = Checks.told(SIXTY);
+        desk.times(0, 1, 7);
+        Checks.answered("lex y x", desk, desk.leadBy(7, 0, 1, 0), 9 + 16 * 5);
+        desk = Checks.told("ring prime 7 order lex x y z;poly x + y15;poly y15");
+        desk.less(0, 1, 0);
+        Checks.answered("of what is left", desk, desk.leadBy(0, 0, 1, 0), 1);
     }
 
     private static void promise16OfZero() {

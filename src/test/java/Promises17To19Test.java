@@ -126,6 +126,12 @@ public final class Promises17To19Test {
             Checks.refused("set " + set, desk, desk.divided(0, set, 0), 5);
         }
         Checks.refused("ZERO by itself", desk, desk.divided(7, 128, 0), 5);
+        desk.less(0, 0, 0);
+        for (int set : new int[] {1, 3, 7}) {
+            Checks.refused("the first is ZERO, set " + set, desk, desk.divided(1, set, 0), 5);
+            Checks.refused("the first is ZERO, set " + set, desk, desk.missing(set), 5);
+        }
+        Checks.answered("without it", desk, desk.divided(1, 6, 0), 1);
     }
 
     private static void promise17ZeroIsMetAheadOfNoRoom() {

@@ -162,6 +162,9 @@ public final class Promises20To27Test {
         Checks.refused("61, the other way", desk, desk.times(3, 5, 7), 3);
         Checks.refused("far more", desk, desk.times(5, 5, 7), 3);
         nothingDone(desk, 3);
+        desk.put(2, 2, 3, 2);
+        Checks.answered("60 by a number", desk, desk.times(6, 2, 7), 60);
+        Checks.answered("a number by 60", desk, desk.times(2, 6, 7), 60);
     }
 
     /** The product alone is told of: more TERMS may come and go while it is reckoned. */
@@ -201,11 +204,12 @@ public final class Promises20To27Test {
 
     private static void promise23ByZero() {
         TermDesk desk = Checks.told(SIX);
+        Checks.answered("by 1", desk, desk.scale(0, 1, 0, 0, 0, 7), 3);
         Checks.answered("by 0", desk, desk.scale(0, 0, 0, 0, 0, 7), 0);
         Checks.answered("by 0 and exponents", desk, desk.scale(0, 0, 1, 2, 3, 7), 0);
         Checks.answered("by 0 where there is no room", desk, desk.scale(0, 0, 15, 0, 0, 7), 0);
         Checks.is("by 0", desk, 7, "");
-        Checks.due("acts", desk.size(1), 3);
+        Checks.due("acts", desk.size(1), 4);
     }
 
     private static void promise23OfZero() {
@@ -372,6 +376,15 @@ public final class Promises20To27Test {
         Checks.is("three come together", desk, 2, "1 z1 + 1 y1");
         Checks.answered("and go", desk, desk.put(1, 0, 2, 2), 2);
         Checks.is("1 by 5", desk, 2, "1 z1 + 1 y1");
+    }
+
+    private static void promise26SixtyTerms() {
+        TermDesk desk = Checks.told(SIXTY);
+        desk.times(0, 1, 7);
+        Checks.answered("5 for z: none occurs", desk, desk.put(7, 2, 5, 6), 60);
+        Checks.due("5 for z: none occurs", desk.same(6, 7), 1);
+        Checks.answered("1 for x: 10 are 3", desk, desk.put(7, 0, 1, 6), 6);
+        Checks.is("1 for x: 10 are 3", desk, 6, "3 y5 + 3 y4 + 3 y3 + 3 y2 + 3 y1 + 3");
     }
 
     private static void promise26CFrom0ToPrimeLess1() {

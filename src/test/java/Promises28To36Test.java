@@ -681,6 +681,16 @@ public final class Promises28To36Test {
         }
     }
 
+    private static void promise35SixtyTermsStandInIt() {
+        TermDesk desk = Checks.told("ring prime 7 order lex x y z;poly x9+x8+x7+x6+x5+x4+x3+x2+x+1;poly y5+y4+y3+y2+y+1");
+        desk.times(0, 1, 2);
+        Checks.answered("lex y x", desk, desk.order(0, 1, 0), 1);
+        for (int k = 0; k < 60; k++) {
+            Checks.due("of y", desk.term(2, k, 2), 5 - k / 10);
+            Checks.due("of x", desk.term(2, k, 1), 9 - k % 10);
+        }
+    }
+
     private static void promise35NoDesk() {
         TermDesk desk = new TermDesk();
         Checks.refused("order", desk, desk.order(0, 0, 1), 1);
