@@ -46,7 +46,9 @@ public final class FaceTest {
             boolean hidden = Modifier.isPrivate(field.getModifiers());
             Checks.due(field + " is private or NONE", hidden, !field.getName().equals("NONE"));
         }
+        fewFields(TermDesk.class);
         for (Class<?> inside : TermDesk.class.getDeclaredClasses()) {
+            fewFields(inside);
             Checks.due(inside + " is static", Modifier.isStatic(inside.getModifiers()), true);
             for (Method method : inside.getDeclaredMethods()) {
                 Checks.due(method + " has no public name", names.contains(method.getName()), false);
@@ -57,5 +59,13 @@ public final class FaceTest {
         }
         Checks.due("NONE", TermDesk.NONE, -1);
         Checks.end("FaceTest");
+    }
+
+    private static void fewFields(Class<?> type) {
+        int fields = 0;
+        for (Field field : type.getDeclaredFields()) {
+            fields += Modifier.isStatic(field.getModifiers()) ? 0 : 1;
+        }
+        Checks.due(type + " has at most 20 fields beside its constants", fields <= 20, true);
     }
 }

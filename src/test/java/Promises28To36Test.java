@@ -377,23 +377,41 @@ public final class Promises28To36Test {
         Random random = new Random(11);
         for (int i = 0; i < 1200; i++) {
             int prime = i % 2 == 0 ? PRIMES[i / 2 % PRIMES.length] : PRIMES[random.nextInt(3)];
-            String how = new String[] {"lex x y z", "deg y z x", "rev z x y"}[random.nextInt(3)];
-            int x = random.nextInt(9);
-            int y = random.nextInt(9);
-            String text = "ring prime " + prime + " order " + how + ";poly " + any(random, prime, x, y) + ";poly "
-                + any(random, prime, 15 - x, 15 - y) + ";poly " + any(random, prime, 15 - x, 15 - y);
-            TermDesk desk = Checks.told(text);
-            Model model = Model.told(text);
-            Checks.due(text, desk.times(0, 1, 3), model.times(0, 1, 3));
-            Checks.due(text, desk.times(0, 2, 4), model.times(0, 2, 4));
-            Checks.due("common of " + text, desk.common(3, 4, 5), model.common(3, 4, 5));
-            Checks.due("content of " + text, desk.content(3, 6), model.content(3, 6));
-            Checks.due("primitive of " + text, desk.primitive(4, 7), model.primitive(4, 7));
-            for (int r = 5; r < 8; r++) {
-                for (int k = 0; k < model.terms(r); k++) {
-                    for (int what = 0; what < 3; what++) {
-                        Checks.due("register " + r + " of " + text, desk.term(r, k, what), model.term(r, k, what));
-                    }
+            besideTheModel(new TermDesk(), factors(random, prime));
+        }
+    }
+
+    /** On one object: nothing of an earlier prime, or of earlier divisors, is left. */
+    private static void promise31OneAfterAnother() {
+        Random random = new Random(31);
+        for (int i = 0; i < 60; i++) {
+            TermDesk desk = new TermDesk();
+            for (int j = 0; j < 8; j++) {
+                besideTheModel(desk, factors(random, PRIMES[random.nextInt(j % 2 == 0 ? 4 : PRIMES.length)]));
+            }
+        }
+    }
+
+    private static String factors(Random random, int prime) {
+        String how = new String[] {"lex x y z", "deg y z x", "rev z x y"}[random.nextInt(3)];
+        int x = random.nextInt(9);
+        int y = random.nextInt(9);
+        return "ring prime " + prime + " order " + how + ";poly " + any(random, prime, x, y) + ";poly "
+            + any(random, prime, 15 - x, 15 - y) + ";poly " + any(random, prime, 15 - x, 15 - y);
+    }
+
+    private static void besideTheModel(TermDesk desk, String text) {
+        Model model = Model.told(text);
+        Checks.due(text, Checks.tell(desk, text), 3);
+        Checks.due(text, desk.times(0, 1, 3), model.times(0, 1, 3));
+        Checks.due(text, desk.times(0, 2, 4), model.times(0, 2, 4));
+        Checks.due("common of " + text, desk.common(3, 4, 5), model.common(3, 4, 5));
+        Checks.due("content of " + text, desk.content(3, 6), model.content(3, 6));
+        Checks.due("primitive of " + text, desk.primitive(4, 7), model.primitive(4, 7));
+        for (int r = 5; r < 8; r++) {
+            for (int k = 0; k < model.terms(r); k++) {
+                for (int what = 0; what < 3; what++) {
+                    Checks.due("register " + r + " of " + text, desk.term(r, k, what), model.term(r, k, what));
                 }
             }
         }
