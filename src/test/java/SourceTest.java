@@ -1,7 +1,11 @@
 import java.io.IOException;
 import java.nio.file.Files;
 import java.nio.file.Path;
+import java.util.HashMap;
+import java.util.HashSet;
 import java.util.List;
+import java.util.Map;
+import java.util.Set;
 import java.util.regex.Matcher;
 import java.util.regex.Pattern;
 
@@ -11,6 +15,10 @@ public final class SourceTest {
         "\\bassert\\b", "\\bprotected\\b", "\\bpackage\\b", "\\bnative\\b", "\\bvolatile\\b", "\\btransient\\b",
         "static \\{", "\\bSystem\\.(?!arraycopy)", "Exact\\(", "\\bRandom\\b", "\\bThread\\b", "\\bMath\\.(?!max|min)",
         "\\bArrays\\.(?!fill)", "\" \\+", "\\+ \"", "\\bwhile\\b", "\\bdo\\b", "for \\(;;", "\\bString\\.", "\\bObject\\b"};
+
+    private static final Pattern HEAD = Pattern.compile(
+        "( +)(?:private |public |static |final )*[\\w\\[\\]]+ (\\w+)\\(([^)]*)\\).*\\{");
+    private static final Pattern CALL = Pattern.compile("\\b(\\w+)\\(");
 
     public static void main(String[] args) throws IOException {
         List<String> lines = Files.readAllLines(Path.of("src/main/java/TermDesk.java"));
@@ -28,13 +36,13 @@ public final class SourceTest {
         Matcher statics = Pattern.compile("\n    +(?:private |public )?static (?!final)[^(=]*[;=]").matcher(code);
         Checks.due("a static field that isn't final", statics.find(), false);
         methods(lines);
+        depths(lines);
         Checks.end("SourceTest");
     }
 
     private static void methods(List<String> lines) {
-        Pattern head = Pattern.compile("( +)(?:private |public |static |final )*[\\w\\[\\]]+ (\\w+)\\(([^)]*)\\).*\\{");
         for (int i = 0; i < lines.size(); i++) {
-            Matcher matcher = head.matcher(lines.get(i));
+            Matcher matcher = HEAD.matcher(lines.get(i));
             if (matcher.matches() && !lines.get(i).contains("else if")) {
                 int end = i;
                 while (!lines.get(end).equals(matcher.group(1) + "}")) {
@@ -47,5 +55,35 @@ public final class SourceTest {
         for (String line : lines) {
             Checks.due("a line of over 120 signs: " + line, line.length() <= 120, true);
         }
+    }
+
+    /** Methods of one name in several classes are taken for one, so a depth is rather too great. */
+    private static void depths(List<String> lines) {
+        Map<String, Set<String>> called = new HashMap<>();
+        String open = "";
+        for (String line : lines) {
+            Matcher head = HEAD.matcher(line);
+            boolean begins = head.matches() && !line.contains("else if");
+            open = begins ? head.group(2) : open;
+            Set<String> calls = called.computeIfAbsent(open, name -> new HashSet<>());
+            Matcher call = CALL.matcher(begins || line.strip().startsWith("*") ? "" : line);
+            while (call.find()) {
+                calls.add(call.group(1));
+            }
+        }
+        for (String name : called.keySet()) {
+            int deep = depth(name, called, 0);
+            Checks.due("calls from " + name + " on go " + deep + " deep, at most 8", deep <= 8, true);
+        }
+    }
+
+    private static int depth(String name, Map<String, Set<String>> called, int above) {
+        int below = 0;
+        if (called.containsKey(name) && above < 20) {
+            for (String next : called.get(name)) {
+                below = Math.max(below, depth(next, called, above + 1));
+            }
+        }
+        return called.containsKey(name) ? below + 1 : 0;
     }
 }
